@@ -12,7 +12,7 @@ public final class OppositionInBaskets {
     private static final int NONE_SUCH = -1000, FAULT_AHEAD = -100;
     private static final int NOTHING = -11, OUTSIDE = -12, UNLIKE = -13, BELOW_ZERO = -14;
 
-    private static final int MOST_PAPERS = 8, TOPICS = 8, MOST_TEXTS = 6, SHEETS = 4, ALL_TOPICS = 8;
+    private static final int MOST_PAPERS = 8, ALL_PAPERS = 255, TOPICS = 8, MOST_TEXTS = 6, SHEETS = 4, ALL_TOPICS = 8;
     private static final int MOST_ITEMS = 40, MOST_BYTES = 160, MOST_OPEN = 5, LAST_DAY = 999;
     private static final int MOST_DAYS = 40, MOST_MOTIONS = 99, MOST_SEEDS = 20, MOTIONS_OF_A_SEED = 5;
 
@@ -262,7 +262,7 @@ public final class OppositionInBaskets {
         if (!stands(paper)) {
             return BAD;
         }
-        weighAll(now);
+        weighCoalitions();
         int others = tally.standing & ~(1 << paper);
         int times = 0;
         for (int set = 0; set <= others; set++) {
@@ -277,7 +277,7 @@ public final class OppositionInBaskets {
         if (!stands(paper) || part < 0 || part > 1) {
             return NO;
         }
-        weighAll(now);
+        weighCoalitions();
         if (tally.weightOfSet(tally.standing) < now.needed) {
             return NO;
         }
@@ -297,7 +297,7 @@ public final class OppositionInBaskets {
         if (!stands(paper)) {
             return BAD;
         }
-        weighAll(now);
+        weighCoalitions();
         int others = tally.standing & ~(1 << paper);
         int half = tally.weight[paper] / 2;
         int rest = tally.weight[paper] - half;
@@ -318,7 +318,7 @@ public final class OppositionInBaskets {
         if (what < 0 || what > 2) {
             return BAD;
         }
-        weighAll(now);
+        weighCoalitions();
         int best = NONE;
         int least = MOST_PAPERS + 1;
         int winning = 0;
@@ -341,12 +341,17 @@ public final class OppositionInBaskets {
         if (!isTopic(topic) || what < 0 || what > 1) {
             return BAD;
         }
-        weighAll(now);
+        weighCoalitions();
         divide(now, topic);
+        int pro = tally.bitsOf(1);
+        int con = tally.bitsOf(-1);
         int best = 0;
         int least = MOST_PAPERS + 1;
+        // a set with one in it who is burnt already is never among the fewest
         for (int set = 0; set <= tally.standing; set++) {
-            if ((set & ~tally.standing) == 0 && Integer.bitCount(set) < least && !carriedWithout(set)) {
+            int proLeft = tally.weightOfSet(pro & ~set);
+            int conLeft = tally.weightOfSet(con & ~set);
+            if (Integer.bitCount(set) < least && !carried(proLeft, conLeft, now.needed)) {
                 least = Integer.bitCount(set);
                 best = set;
             }
@@ -463,7 +468,7 @@ public final class OppositionInBaskets {
             case 1:
                 return now.size - Integer.bitCount(now.standingBits());
             case 2:
-                weighAll(now);
+                weighCoalitions();
                 return tally.weightOfSet(tally.standing);
             case 3:
                 return textCount;
@@ -690,6 +695,11 @@ public final class OppositionInBaskets {
 
     // ---- divisions, coalitions
 
+    private void weighCoalitions() {
+        weighAll(now);
+        tally.addUp();
+    }
+
     /** Weights don't hang on the topic: they are laid once for all divisions of a call. */
     private void weighAll(Basket b) {
         tally.standing = b.standingBits();
@@ -735,12 +745,6 @@ public final class OppositionInBaskets {
             }
         }
         return bits;
-    }
-
-    private boolean carriedWithout(int burnt) {
-        int pro = tally.weightOfSet(tally.bitsOf(1) & ~burnt);
-        int con = tally.weightOfSet(tally.bitsOf(-1) & ~burnt);
-        return carried(pro, con, now.needed);
     }
 
     /** Whether one of a weight makes others who don't win win. */
@@ -937,6 +941,7 @@ public final class OppositionInBaskets {
         int pro, con, standing;
         final int[] weight = new int[MOST_PAPERS];
         final int[] vote = new int[MOST_PAPERS];
+        private final int[] together = new int[ALL_PAPERS + 1];
 
         int bitsOf(int way) {
             int bits = 0;
@@ -946,12 +951,18 @@ public final class OppositionInBaskets {
             return bits;
         }
 
-        int weightOfSet(int set) {
-            int sum = 0;
+        /** Lays out what each set of papers weighs together, so that no set is added up twice. */
+        void addUp() {
             for (int i = 0; i < MOST_PAPERS; i++) {
-                sum += (set >> i & 1) == 1 ? weight[i] : 0;
+                int bit = 1 << i;
+                for (int set = 0; set < bit; set++) {
+                    together[set | bit] = together[set] + weight[i];
+                }
             }
-            return sum;
+        }
+
+        int weightOfSet(int set) {
+            return together[set & ALL_PAPERS];
         }
     }
 
@@ -1022,7 +1033,8 @@ public final class OppositionInBaskets {
             }
             int c = letter[place];
             if (isLower(c)) {
-                takeWord();
+                skipWord();
+                token = wordAtHand();
             } else if (isDigit(c)) {
                 takeNumber();
             } else {
@@ -1040,29 +1052,23 @@ public final class OppositionInBaskets {
             token = place - start > 4 ? BROKEN : NUMBER_TOKEN;
         }
 
-        private void takeWord() {
+        private void skipWord() {
             while (place < size && isLower(letter[place])) {
                 place++;
             }
-            int name = nameAtHand();
-            if (name >= 0) {
-                token = NAME_TOKEN;
-                value = NAME_CODE + name;
-            } else {
-                token = keyAtHand();
-            }
         }
 
-        private int nameAtHand() {
-            return spells("crumpled") ? 0
+        private int wordAtHand() {
+            int name = spells("crumpled") ? 0
                 : spells("number") ? 1
                 : spells("topic") ? 2
                 : spells("mood") ? 3
                 : spells("day") ? 4
                 : spells("desk") ? 5 : NONE;
-        }
-
-        private int keyAtHand() {
+            if (name != NONE) {
+                value = NAME_CODE + name;
+                return NAME_TOKEN;
+            }
             return spells("feels") ? FEELS_KEY
                 : spells("weighs") ? WEIGHS_KEY
                 : spells("smooths") ? SMOOTHS_KEY
@@ -1274,7 +1280,7 @@ public final class OppositionInBaskets {
                     }
                 } else if (c == NOT || c == NEGATE) {
                     if (top > 0) {
-                        stack[top - 1] = c == NEGATE ? -stack[top - 1] : truth(stack[top - 1] == 0);
+                        stack[top - 1] = c == NEGATE ? -stack[top - 1] : stack[top - 1] == 0 ? 1 : 0;
                     }
                 } else if (top > 1) {
                     top--;
@@ -1304,13 +1310,13 @@ public final class OppositionInBaskets {
         private static int joined(int operation, int a, int b) {
             switch (operation) {
                 case OR:
-                    return truth(a != 0 || b != 0);
+                    return a != 0 || b != 0 ? 1 : 0;
                 case AND:
-                    return truth(a != 0 && b != 0);
+                    return a != 0 && b != 0 ? 1 : 0;
                 case LESS:
-                    return truth(a < b);
+                    return a < b ? 1 : 0;
                 case SAME:
-                    return truth(a == b);
+                    return a == b ? 1 : 0;
                 case PLUS:
                     return a + b;
                 case MINUS:
@@ -1318,10 +1324,6 @@ public final class OppositionInBaskets {
                 default:
                     return a * b;
             }
-        }
-
-        private static int truth(boolean is) {
-            return is ? 1 : 0;
         }
     }
 }
