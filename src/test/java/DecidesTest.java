@@ -176,6 +176,13 @@ public final class DecidesTest {
         x.set(1, 0, 13);
         due.is("all", x.fewest(0), 14);
         due.is("all", x.fewest(1), 3);
+        OppositionInBaskets y = chamber(8, 1, 1, 1, 1, 1, 1, 1, 1);
+        due.is("all eight", y.fewest(0), 255);
+        due.is("all eight", y.fewest(1), 8);
+        due.is("they alone", y.fewest(2), 1);
+        y.set(1, 0, 1);
+        due.is("all eight must go", y.stop(0, 0), 255);
+        due.is("all eight must go", y.stop(0, 1), 8);
     }
 
     private static void stop() {

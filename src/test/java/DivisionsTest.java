@@ -90,6 +90,13 @@ public final class DivisionsTest {
         due.is("topics(2): without a sign", x.topics(2), 5);
         x.set(1, 0, 6);
         due.is("topics(0)", x.topics(0), 0);
+        x.set(2, 0, 8);
+        due.is("topics(2) by the weights of now", x.topics(2), 8);
+        x.force(0);
+        Due.read(x, "feels topic=8;weighs 9;smooths 1;");
+        x.force(2);
+        due.is("there is no topic 8", x.topics(2), 0);
+        due.is("there is no topic 8", x.topics(1), 0);
         OppositionInBaskets y = new OppositionInBaskets();
         due.is("topics(1) of nobody", y.topics(1), 0);
         due.is("topics(2) of nobody", y.topics(2), 0);

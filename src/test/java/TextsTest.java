@@ -176,6 +176,19 @@ public final class TextsTest {
         fault("feels 1;weighs ?", 15);
         fault("feels 1mood" + rest, 7);
         fault("feels mood1" + rest, 10);
+        fault("feels 1 or" + rest, 10);
+        fault("feels 1<" + rest, 8);
+        fault("feels 1=" + rest, 8);
+        fault("feels 1*" + rest, 8);
+        fault("feels -" + rest, 7);
+        fault("feels food" + rest, 6);
+        fault("feels bay" + rest, 6);
+        fault("feels moodz" + rest, 6);
+        fault("zeels mood" + rest, 0);
+        fault("feels `" + rest, 6);
+        fault("feels {" + rest, 6);
+        fault("feels /" + rest, 6);
+        fault("feels :" + rest, 6);
     }
 
     private static void depth() {
@@ -223,6 +236,25 @@ public final class TextsTest {
         y.paper(0, 0, 0);
         y.force(2);
         due.is("what it tells", y.told(0, 10), 67);
+        manyLongOnes();
+    }
+
+    /** What an earlier text took up is no burden for a later one. */
+    private static void manyLongOnes() {
+        OppositionInBaskets x = new OppositionInBaskets();
+        x.paper(0, 0, 0);
+        String faulty = "feels 1" + "+1".repeat(70) + ";?";
+        for (int i = 1; i <= 5; i++) {
+            String text = "feels " + i + "+1".repeat(40) + ";weighs " + i + "+1".repeat(9) + ";smooths " + i + "+1".repeat(5) + ";";
+            due.is("a faulty one", Due.read(x, faulty), -100 - faulty.length() + 1);
+            due.is("a long one", Due.read(x, text), i);
+        }
+        for (int i = 5; i > 0; i--) {
+            x.force(i);
+            due.is("feels", x.told(0, 10), i + 40);
+            due.is("weighs", x.told(0, 8), i + 9);
+            due.is("smooths", x.told(0, 9), i + 5);
+        }
     }
 
     private static void force() {
