@@ -634,10 +634,14 @@ public final class OppositionInBaskets {
 
     private int weightOf(Basket b, Paper p) {
         int v = bounded(textOf(b.rule).value(WEIGHS_PART, p, 0, b.day), 0, 99);
+        return bounded(kindWeighs(p, v), 0, 99);
+    }
+
+    private static int kindWeighs(Paper p, int v) {
         switch (p.kind) {
             case LETTER:
             case MEMO:
-                return bounded(v + p.number, 0, 99);
+                return v + p.number;
             case ENVELOPE:
                 return v / 2;
             case DOODLE:
@@ -651,12 +655,16 @@ public final class OppositionInBaskets {
 
     private int smoothingOf(Basket b, Paper p) {
         int v = bounded(textOf(b.rule).value(SMOOTHS_PART, p, 0, b.day), 0, 99);
+        return bounded(kindSmooths(p, v), 0, 99);
+    }
+
+    private static int kindSmooths(Paper p, int v) {
         switch (p.kind) {
             case ENVELOPE:
             case DOODLE:
-                return bounded(2 * v, 0, 99);
+                return 2 * v;
             case MEMO:
-                return bounded(v + p.number, 0, 99);
+                return v + p.number;
             case CORE:
                 return 0;
             default:
