@@ -21,6 +21,10 @@ final class Due {
         }
     }
 
+    int asked() {
+        return asked;
+    }
+
     boolean anyWrong() {
         return wrong > 0;
     }

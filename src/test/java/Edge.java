@@ -88,7 +88,7 @@ final class Edge {
         }
     }
 
-    /** A call of one number: both the last ones that are taken are, the first ones that aren't, and those far outside, are refused. */
+    /** Numbers that a range doesn't have: the first ones on both sides, those far outside, and some with the same lowest 16 bits. */
     static int[] outside(int least, int greatest) {
         return new int[] {least - 1, greatest + 1, MIN, MIN + 1, MAX - 1, MAX, least - 65536, greatest + 65536};
     }

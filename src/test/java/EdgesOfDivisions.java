@@ -67,6 +67,21 @@ final class EdgesOfDivisions {
         x.set(6, 7, 1);
         x.set(6, 0, 0);
         answers("all but the first are BURNT", x, 99, 0, 1, 1, 0, 1);
+        for (int many = 0; many < 8; many++) {
+            OppositionInBaskets z = eight("feels 1-2*(topic<4);weighs 1;smooths 1;");
+            z.burn(0);
+            OppositionInBaskets some = Due.ruled("feels 1-2*(topic<4);weighs 1;smooths 1;");
+            for (int p = 0; p < many; p++) {
+                z.set(6, p, 0);
+                some.paper(0, 0, 0);
+            }
+            for (OppositionInBaskets of : new OppositionInBaskets[] {z, some}) {
+                edge.is("just " + many + " vote for", of.division(7, 3), (1 << many) - 1);
+                edge.is("just " + many + " vote against", of.division(0, 4), (1 << many) - 1);
+                edge.is("so much is FOR", of.division(7, 0), many);
+                edge.is("so much is AGAINST", of.division(0, 1), many);
+            }
+        }
         OppositionInBaskets y = eight("feels (topic=0)-(topic=7);weighs 1;smooths 1;");
         y.set(1, 0, 8);
         int[] want = {8, 0, 1, 255, 0, 255};
@@ -165,6 +180,8 @@ final class EdgesOfDivisions {
         edge.is("the last TOPIC, against", eight("feels -(topic=7);weighs 1;smooths 1;").topics(1), 7);
         edge.is("against ahead of for", eight("feels (topic=5)-(topic=2);weighs 1;smooths 1;").topics(1), 2);
         edge.is("for ahead of against", eight("feels (topic=2)-(topic=5);weighs 1;smooths 1;").topics(1), 2);
+        edge.is("there is no TOPIC 8", eight("feels 7<topic;weighs 1;smooths 1;").topics(2), 0);
+        edge.is("there is no TOPIC -1", eight("feels topic<0;weighs 1;smooths 1;").topics(2), 0);
         // the first three are for TOPIC 1, all but one are against TOPIC 6
         OppositionInBaskets x = eight("feels (topic=1)*(number<3)-(topic=6)*(0<number);weighs 1;smooths 1;");
         edge.is("3 for, then 7 against", x.topics(1), 6);
@@ -303,6 +320,17 @@ final class EdgesOfDivisions {
             for (int t = 0; t < 8; t++) {
                 edge.is("run(" + n + ", " + t + ")", x.run(n, t), n > t ? 10 + n : 0);
             }
+        }
+        // each kind on its own: a draft, a letter, an envelope, a memo, a doodle, a core
+        int[] pro = {70, 71, 35, 71, 0, 3};
+        int[] smoothed = {30, 31, 0, 21, 0, 3};
+        for (int kind = 0; kind < 6; kind++) {
+            OppositionInBaskets z = Due.ruled("feels 9;weighs crumpled;smooths 4;");
+            z.paper(kind, 1, -1);
+            z.set(5, 0, 70);
+            edge.is("not a day of KIND " + kind, z.run(0, 0), pro[kind]);
+            edge.is("ten days of KIND " + kind, z.run(10, 0), smoothed[kind]);
+            edge.is("TOPICS of KIND " + kind, z.run(0, 8), kind == 2 ? 4 : kind == 3 ? 7 : kind < 4 ? 8 : 0);
         }
         OppositionInBaskets y = eight("feels 1;weighs 99;smooths 1;");
         edge.is("the most there is", y.run(40, 7), 792);

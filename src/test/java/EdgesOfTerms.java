@@ -21,6 +21,8 @@ final class EdgesOfTerms {
         textNought();
         votes();
         carried();
+        refusals();
+        lastCall();
     }
 
     private void firstValues() {
@@ -35,6 +37,17 @@ final class EdgesOfTerms {
             edge.is("CRUMPLED as one comes", x.told(kind, 5), 50);
             edge.is("BURNT as one comes", x.told(kind, 6), 0);
         }
+        OppositionInBaskets y = new OppositionInBaskets();
+        y.image();
+        y.paper(0, 0, 0);
+        y.set(4, 0, 3);
+        y.set(5, 0, 99);
+        y.set(6, 0, 1);
+        y.back();
+        y.paper(0, 0, 0);
+        edge.is("DESK as one comes where another one was", y.told(0, 4), 0);
+        edge.is("CRUMPLED as one comes where another one was", y.told(0, 5), 50);
+        edge.is("BURNT as one comes where another one was", y.told(0, 6), 0);
         edge.says("SHEETS 0 .. 3 are rows of numbers, or missing (as all are at first)");
         for (int sheet = 0; sheet < 4; sheet++) {
             edge.is("a SHEET at first", x.cell(sheet, 0, 0), Edge.NOTHING);
@@ -95,6 +108,10 @@ final class EdgesOfTerms {
         told("-99 of TOPIC 1", allKinds("-99", "1", "1", 7, 9), 11, -99, -198, 99, -198, 9, -100);
         told("0 of TOPIC 1", allKinds("0", "1", "1", 7, 0), 11, 0, 0, 0, 0, 0, -1);
         told("1 of TOPIC 1", allKinds("1", "1", "1", 7, 0), 11, 1, 2, -1, 2, 0, 0);
+        OppositionInBaskets all = allKinds("7", "1", "1", 3, -2);
+        for (int t = 0; t < 8; t++) {
+            told("7 of TOPIC " + t, all, 10 + t, 7, 14, t == 1 || t == 3 || t == 5 || t == 7 ? -7 : 7, t == 3 ? 0 : 14, -2, 6);
+        }
         edge.says("MEMO: 0, if t is NUMBER modulo 8, else as a LETTER");
         int[] silent = {0, 1, 2, 3, 4, 5, 6, 7, 0, 1};
         for (int number = 0; number < 10; number++) {
@@ -149,12 +166,44 @@ final class EdgesOfTerms {
             told("weighs " + value[i], x, 8, least, least, least / 2, least, least / 2 + 1, 3);
             told("smooths " + value[i], x, 9, least, least, Math.min(99, 2 * least), least, Math.min(99, 2 * least), 0);
         }
+        for (String below : new String[] {"-1", "-100", LEAST_INT}) {
+            OppositionInBaskets y = allKinds("1", below, below, 9, 0);
+            told("weighs " + below + " with NUMBER 9", y, 8, 0, 9, 0, 9, 1, 3);
+            told("smooths " + below + " with NUMBER 9", y, 9, 0, 0, 0, 9, 0, 0);
+        }
+        names();
         edge.says("topic: the TOPIC (of weighs, smooths 0)");
         OppositionInBaskets x = allKinds("topic*9", "7+topic", "8+topic", 0, 0);
         told("the first TOPIC", x, 10, 0, 0, 0, 0, 0, -1);
         told("the last TOPIC", x, 17, 63, 126, -63, 126, 0, 62);
         told("weighs", x, 8, 7, 7, 3, 7, 4, 3);
         told("smooths", x, 9, 8, 8, 16, 8, 16, 0);
+    }
+
+    private void names() {
+        edge.says("Of a PAPER: crumpled: CRUMPLED; number: NUMBER; topic: the TOPIC (of weighs, smooths 0); mood: MOOD; day: DAY; "
+            + "desk: DESK.");
+        String[] name = {"day-950", "topic", "number", "mood", "desk", "crumpled"};
+        int[] least = {-99, 7, 0, -9, 0, 0};
+        int[] greatest = {49, 7, 9, 9, 3, 99};
+        int[] lastOf = {999, 999, 9, 9, 3, 99};
+        int[] firstOf = {0, 1, 0, -9, 0, 0};
+        for (int i = 0; i < name.length; i++) {
+            OppositionInBaskets x = Due.ruled("feels " + name[i] + ";weighs " + name[i] + ";smooths " + name[i] + ";");
+            x.paper(0, 1, 1);
+            for (int what = 0; what < 6; what++) {
+                x.set(what, 0, what == i ? firstOf[i] : lastOf[what]);
+            }
+            edge.is("the least " + name[i], x.told(0, 17), least[i]);
+            edge.is("weighs the least " + name[i], x.told(0, 8), i == 1 ? 0 : Math.max(0, least[i]));
+            edge.is("smooths the least " + name[i], x.told(0, 9), i == 1 ? 0 : Math.max(0, least[i]));
+            for (int what = 0; what < 6; what++) {
+                x.set(what, 0, what == i ? lastOf[i] : firstOf[what]);
+            }
+            edge.is("the greatest " + name[i], x.told(0, 17), greatest[i]);
+            edge.is("weighs the greatest " + name[i], x.told(0, 8), i == 1 ? 0 : greatest[i]);
+            edge.is("smooths the greatest " + name[i], x.told(0, 9), i == 1 ? 0 : greatest[i]);
+        }
     }
 
     /** What a DRAFT of a NUMBER feels. */
@@ -196,6 +245,12 @@ final class EdgesOfTerms {
         feelsOf("0=0", 0, 1);
         feelsOf("-1<0", 0, 1);
         feelsOf("0<1", 0, 1);
+        feelsOf("0 or 0", 0, 0);
+        feelsOf("0 or 1", 0, 1);
+        feelsOf("1 or 0", 0, 1);
+        feelsOf("0 and 0", 0, 0);
+        feelsOf("0 and 1", 0, 0);
+        feelsOf("1 and 0", 0, 0);
         feelsOf("1 or 1", 0, 1);
         feelsOf("2 and 2", 0, 1);
         feelsOf("not -1", 0, 0);
@@ -268,5 +323,47 @@ final class EdgesOfTerms {
             x.set(1, 0, n[0]);
             edge.is("792 where " + n[0] + " is NEEDED", x.division(7, 2), n[1]);
         }
+    }
+
+    /** Where two refusals are right at once, the one that the call's words name first is answered. */
+    private void refusals() {
+        edge.says("NONE is -1; NO, where a long is answered, -4611686018427387904.");
+        edge.is("NONE", OppositionInBaskets.NONE, -1);
+        edge.is("NO", OppositionInBaskets.NO, -4611686018427387904L);
+        edge.says("BAD (-2: a number is none such or not as told), STATE (-3), FULL (-4)");
+        edge.is("BAD", OppositionInBaskets.BAD, -2);
+        edge.is("STATE", OppositionInBaskets.STATE, -3);
+        edge.is("FULL", OppositionInBaskets.FULL, -4);
+        edge.says("Refusals, the first that the call's words name; they change nothing");
+        edge.leaves("paper(6, 0, 0): BAD; FULL", x -> x.paper(6, 0, 0), Edge.BAD, State.FULL);
+        edge.leaves("feed(256): BAD; FULL", x -> x.feed(256), Edge.BAD, State.FULL);
+        edge.leaves("tells(2, 5, 0): BAD; -11", x -> x.tells(2, 5, 0), Edge.BAD, State.SOME);
+        edge.leaves("tells(2, 0, 8): BAD; -11", x -> x.tells(2, 0, 8), Edge.BAD, State.SOME);
+        edge.leaves("sheet(4, 0, -1): BAD; -14", x -> x.sheet(4, 0, -1), Edge.BAD, State.SOME);
+        edge.leaves("sheet(0, 3, -1): BAD; -14", x -> x.sheet(0, 3, -1), Edge.BAD, State.SOME);
+        edge.leaves("cell(2, -1, 0): -11; -12", x -> x.cell(2, -1, 0), Edge.NOTHING, State.SOME);
+        edge.leaves("copy(4, 0, 2, 0, 1): BAD; -11", x -> x.copy(4, 0, 2, 0, 1), Edge.BAD, State.SOME);
+        edge.leaves("copy(2, 0, 4, 0, 1): BAD; -11", x -> x.copy(2, 0, 4, 0, 1), Edge.BAD, State.SOME);
+        edge.leaves("copy(2, 0, 0, 0, 1): -11; -13", x -> x.copy(2, 0, 0, 0, 1), Edge.NOTHING, State.SOME);
+        edge.leaves("copy(0, 0, 2, 0, -1): -11; -12", x -> x.copy(0, 0, 2, 0, -1), Edge.NOTHING, State.SOME);
+        edge.leaves("copy(0, -1, 1, 0, 1): -13; -12", x -> x.copy(0, -1, 1, 0, 1), Edge.UNLIKE, State.SOME);
+        edge.leaves("copy(0, 0, 1, 0, -1): -13; -12", x -> x.copy(0, 0, 1, 0, -1), Edge.UNLIKE, State.SOME);
+        edge.leaves("papers(0, 3, 0, 1): BAD; -13", x -> x.papers(0, 3, 0, 1), Edge.BAD, State.SOME);
+        edge.leaves("papers(2, 0, 0, 9): BAD; -11", x -> x.papers(2, 0, 0, 9), Edge.BAD, State.SOME);
+        edge.leaves("papers(0, 0, -1, 9): BAD; -12", x -> x.papers(0, 0, -1, 9), Edge.BAD, State.SOME);
+        edge.leaves("papers(0, 1, -1, 1): -13; -12", x -> x.papers(0, 1, -1, 1), Edge.UNLIKE, State.SOME);
+        edge.leaves("papers(2, 1, -1, 1): -11; -12", x -> x.papers(2, 1, -1, 1), Edge.NOTHING, State.SOME);
+        edge.leaves("taken(8, 6): BAD; -11", x -> x.taken(8, 6), Edge.BAD, State.SOME);
+        edge.leaves("taken(0, 6): BAD; -13", x -> x.taken(0, 6), Edge.BAD, State.SOME);
+    }
+
+    private void lastCall() {
+        edge.says("An object is used for at most 512 calls after it has been made");
+        OppositionInBaskets x = new OppositionInBaskets();
+        for (int call = 1; call <= 510; call++) {
+            edge.is("call " + call, x.set(0, 0, call), call - 1);
+        }
+        edge.is("call 511", x.paper(5, 9, 9), 0);
+        edge.is("call 512", x.taken(0, 0), 9);
     }
 }

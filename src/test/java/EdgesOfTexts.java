@@ -11,6 +11,7 @@ final class EdgesOfTexts {
         feed();
         feedRefuses();
         text();
+        afterAnother();
         textRefuses();
         tokens();
         faultsAtTheEnd();
@@ -88,6 +89,22 @@ final class EdgesOfTexts {
         parts("feels 1;weighs 1;smooths 10" + "+1".repeat(66) + ";", 1, 1, 76);
         parts("feels " + "(".repeat(5) + "1" + ")+1".repeat(5) + "+1".repeat(50) + REST, 56, 1, 1);
         parts("feels " + "0+".repeat(22) + "1;weighs " + "0+".repeat(22) + "2;smooths " + "0+".repeat(22) + "03;", 1, 2, 3);
+    }
+
+    /** What a text took up is free again for the next one, be it a TEXT or not. */
+    private void afterAnother() {
+        edge.says("THE TAPE, which is empty then, is a TEXT: its number");
+        OppositionInBaskets x = new OppositionInBaskets();
+        x.paper(0, 0, 0);
+        edge.is("a long one with a FAULT", Due.read(x, "feels 1" + "+1".repeat(76)), -259);
+        edge.is("a long one", Due.read(x, "feels 10" + "-1".repeat(66) + REST), 1);
+        edge.is("another long one", Due.read(x, "feels 30" + "-1".repeat(66) + ";weighs 3;smooths 4;"), 2);
+        x.force(1);
+        edge.is("the first one feels", x.told(0, 10), -56);
+        x.force(2);
+        edge.is("the second one feels", x.told(0, 10), -36);
+        edge.is("the second one weighs", x.told(0, 8), 3);
+        edge.is("the second one smooths", x.told(0, 9), 4);
     }
 
     private void parts(String text, int feels, int weighs, int smooths) {
@@ -208,15 +225,39 @@ final class EdgesOfTexts {
             fault("feels 1+" + name.substring(1) + REST, 8);
             fault("feels 1+" + name.substring(0, name.length() - 1) + REST, 8);
             fault("feels 1+" + name + "s" + REST, 8);
+            fault("feels 1+" + name + "z" + REST, 8);
             fault("feels 1+a" + name + REST, 8);
+            fault("feels 1+z" + name + REST, 8);
+            for (int i = 0; i < name.length(); i++) {
+                fault("feels 1+" + name.substring(0, i) + "x" + name.substring(i + 1) + REST, 8);
+            }
             fault("feels 1 " + name + REST, 8);
         }
         String[] keys = {"feels", "weighs", "smooths", "or", "and", "not"};
         for (String key : keys) {
             fault("feels 1+" + key + REST, 8);
             fault("feels 1 " + key + "s 1" + REST, 8);
+            for (int i = 0; i < key.length(); i++) {
+                fault("feels 1 " + key.substring(0, i) + "x" + key.substring(i + 1) + " 1" + REST, 8);
+            }
             fault("feels 1 " + key.substring(0, key.length() - 1) + " 1" + REST, 8);
         }
+        edge.says("feels, weighs, smooths, or, and, not are KEYS");
+        for (String key : keys) {
+            if (!key.equals("or") && !key.equals("and")) {
+                fault("feels 1 " + key + " 1" + REST, 8);
+            }
+            if (!key.equals("feels")) {
+                fault(key + " 1" + REST, 0);
+            }
+            if (!key.equals("weighs")) {
+                fault("feels 1;" + key + " 1;smooths 1;", 8);
+            }
+            if (!key.equals("smooths")) {
+                fault("feels 1;weighs 1;" + key + " 1;", 17);
+            }
+        }
+        edge.says("a WORD that is neither KEY nor NAME");
         fault("feels 1 a 1" + REST, 8);
         fault("feels z" + REST, 6);
         fault("feel 1" + REST, 0);
@@ -247,6 +288,9 @@ final class EdgesOfTexts {
         fault("feels 1==2" + REST, 8);
         fault("feels 1<not 2" + REST, 8);
         fault("feels <2" + REST, 6);
+        fault("feels 1<" + REST, 8);
+        fault("feels 1=" + REST, 8);
+        fault("feels (1<)" + REST, 9);
         tells("(1<2)<3", 1);
         tells("not 1<2 and 1=1 or 3<4", 1);
         edge.says("SUM: TERM { + or - TERM }. TERM: ONE { * ONE }. ONE: a NUMBER, a NAME, - ONE, ( E ).");

@@ -35,8 +35,8 @@ final class EdgesOfTold {
 
     private void tellsTheFirst() {
         edge.promise(19, "tells");
-        edge.says("a SHEET tells votes of a PAPER, were it not BURNT, on TOPICS 0 .. 7 (1 for, -1 against, 0): the first that is otherwise; "
-            + "NONE");
+        edge.says("a SHEET tells votes of a PAPER, were it not BURNT, on TOPICS 0 .. 7 (1 for, -1 against, 0): "
+            + "the first that is otherwise; NONE");
         for (int sort = 0; sort < 3; sort++) {
             OppositionInBaskets x = new OppositionInBaskets();
             x.paper(0, 0, 1);
@@ -67,7 +67,8 @@ final class EdgesOfTold {
     }
 
     private void tellsOfOne() {
-        edge.says("KINDS (bits 0 .. 5), NUMBERS (bits 0 .. 9), MOODS (of -9 .. 9: bits, -9 is bit 0), CRUMPLED (of 0 .. 99: how many, the least)");
+        edge.says("KINDS (bits 0 .. 5), NUMBERS (bits 0 .. 9), MOODS (of -9 .. 9: bits, -9 is bit 0), "
+            + "CRUMPLED (of 0 .. 99: how many, the least)");
         edge.is("KINDS: a CORE feels 0", told("1").tells(0, 0, 1), 0b010011);
         edge.is("KINDS: a CORE feels 1", told("2").tells(0, 0, 1), 0b110011);
         edge.is("KINDS: DOODLE alone", told("0").tells(0, 0, 1), 0b010000);
@@ -94,11 +95,40 @@ final class EdgesOfTold {
             edge.is("CRUMPLED: how many, " + crumpled[i], told(crumpled[i]).tells(0, 0, 4), many[i]);
             edge.is("CRUMPLED: the least, " + crumpled[i], told(crumpled[i]).tells(0, 0, 5), least[i]);
         }
+        guessedOfEachPaper();
         for (int what = 0; what < 8; what++) {
             int w = what;
             edge.leaves("tells(0, 0, " + w + ")", z -> z.tells(0, 0, w), State.SOME);
             edge.leaves("tells(0, 3, " + w + ") of a BURNT one", z -> z.tells(0, 3, w), State.SOME);
             edge.leaves("tells(2, 0, " + w + ")", z -> z.tells(2, 0, w), State.TEXTS);
+        }
+    }
+
+    /** All but what is asked for is the PAPER's own, whichever was asked for ahead of it. */
+    private void guessedOfEachPaper() {
+        OppositionInBaskets x = Due.ruled("feels 20*(desk=2)+number+mood+(crumpled<10);weighs 1;smooths 1;");
+        State.write(x, 0, 0, 1, 1, 1, 1, 1, 1, 1, 1);
+        x.paper(0, 0, 0);
+        x.paper(0, 9, 9);
+        x.paper(0, 0, 0);
+        x.set(4, 2, 2);
+        x.paper(5, 0, 1);
+        x.paper(2, 9, 9);
+        int[] kinds = {0, 0b110011, 0b100011, 0b010011, 0b110011};
+        int[] numbers = {1022, 1023, 1023, 1022, 0};
+        int[] moods = {0x1FF << 10, (1 << 19) - 2, (1 << 19) - 1, 0x1FF << 10 & ~(1 << 10), 0};
+        int[] many = {10, 100, 100, 10, 0};
+        int[] least = {0, 0, 0, 0, Edge.NONE};
+        for (int round = 0; round < 2; round++) {
+            for (int p = 0; p < 5; p++) {
+                edge.is("CRUMPLED of " + p + ": how many", x.tells(0, p, 4), many[p]);
+                edge.is("CRUMPLED of " + p + ": the least", x.tells(0, p, 5), least[p]);
+            }
+            for (int p = 4; p >= 0; p--) {
+                edge.is("KINDS of " + p, x.tells(0, p, 1), kinds[p]);
+                edge.is("NUMBERS of " + p, x.tells(0, p, 2), numbers[p]);
+                edge.is("MOODS of " + p, x.tells(0, p, 3), moods[p]);
+            }
         }
     }
 

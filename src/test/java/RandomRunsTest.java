@@ -3,7 +3,8 @@ import java.util.Random;
 /** Random runs of calls of all promises, each answer held against the model's. The seeds are fixed. */
 public final class RandomRunsTest {
     private static final int RUNS = 1500;
-    private static final int CALLS = 512;
+    /** An object's first 512 calls are promised; a step makes three at most. */
+    private static final int CALLS = 512, OF_A_STEP = 3;
     private static final Due due = new Due();
     private static Random random;
     private static OppositionInBaskets x;
@@ -18,8 +19,9 @@ public final class RandomRunsTest {
             x = new OppositionInBaskets();
             m = new Model();
             waiting = "";
-            for (int call = 0; call < CALLS && !due.anyWrong(); call++) {
-                step("run " + run + ", call " + call + ": ");
+            int before = due.asked();
+            for (int step = 0; due.asked() - before <= CALLS - OF_A_STEP && !due.anyWrong(); step++) {
+                step("run " + run + ", step " + step + ": ");
             }
         }
         due.end();

@@ -149,6 +149,7 @@ public final class ToldTest {
         due.is("drawn(0, 0)", x.drawn(0, 0), 0);
         due.is("drawn(0, 1)", x.drawn(0, 1), 0);
         for (int seed : new int[] {0, 1, 7, -1, 12345, Integer.MIN_VALUE, Integer.MAX_VALUE}) {
+            x = oddTopics();
             for (int n = 0; n <= 99; n++) {
                 due.is("drawn(" + seed + ", " + n + ")", x.drawn(seed, n), drawnOdd(seed, n));
             }
@@ -162,6 +163,7 @@ public final class ToldTest {
     private static void chance() {
         OppositionInBaskets x = oddTopics();
         for (int seed : new int[] {0, 3, -9, Integer.MAX_VALUE - 4}) {
+            x = oddTopics();
             for (int m = 1; m <= 20; m++) {
                 for (int k = 0; k <= 5; k++) {
                     int enough = 0;
